@@ -49,6 +49,7 @@ public final class KeyHallPromises {
         end();
         cut();
         size();
+        sizeOfAlikeWords();
         fullRows();
         partsAreApart();
         System.out.println(wrong == 0 ? "all promises hold" : wrong + " answers are not as due");
@@ -582,7 +583,10 @@ public final class KeyHallPromises {
         for (int i = 0; i < 380; i++) {
             x.mark(i, 5000);
         }
-        due(24, "size(4) with as many as the calls allow", x.size(4), 554);
+        due(24, "size(4) with more than one for each call", x.size(4), 554);
+        due(23, "around the greatest of them", x.around(380, 5000), 1);
+        due(22, "mark of the greatest again", x.mark(379, 5000), 553);
+        due(22, "mark(1, -1), which the step marked", x.mark(1, -1), 552);
     }
 
     private static void stepWraps() {
@@ -671,6 +675,14 @@ public final class KeyHallPromises {
         due(29, "size(MIN)", x.size(MIN), -1);
     }
 
+    private static void sizeOfAlikeWords() {
+        KeyHall x = new KeyHall(0);
+        lineOf(x, "kkkkkkkkkkkb", 1);
+        lineOf(x, "kkkkkkkkkkkc", 2);
+        lineOf(x, "kkkkkkkkkkk", 3);
+        due(29, "size(3) of words that differ at their end", x.size(3), 3);
+    }
+
     private static void add(KeyHall x, int i) {
         if (i < 2) {
             x.add(i, i, 1);
@@ -709,7 +721,7 @@ public final class KeyHallPromises {
             due(22, "mark of point " + i, marked.mark(scattered, -scattered), i + 1);
             due(25, "put of column " + i, put.put(scattered, -scattered, i), NOTHING);
         }
-        due(3, "count(1, -1) among 510", counted.count(211, -211), 1);
+        due(3, "count(211, -211) among 510", counted.count(211, -211), 1);
         due(2, "size(0) of 510", counted.size(0), 510);
         due(9, "comer(509, true) of 510", come.comer(509, true), -(509 * 211 % 510));
         due(7, "size(1) of 510", come.size(1), 510);
