@@ -348,16 +348,19 @@ public final class KeyHall {
 
     /** Keys with a value each, rising by key; a key that stands more than once keeps its values as they came. */
     private static final class Sorted {
-        // The jumps of a search add up to 1023: no room is larger.
         private static final int WIDEST_JUMP = 512;
+
+        // The jumps of a search add up to this: keys further up would not be found.
+        private static final int LARGEST_ROOM = 2 * WIDEST_JUMP - 1;
 
         private final long[] keys;
         private final long[] values;
         private int held = 0;
 
         Sorted(int room) {
-            keys = new long[room];
-            values = new long[room];
+            int length = Math.max(0, Math.min(room, LARGEST_ROOM));
+            keys = new long[length];
+            values = new long[length];
         }
 
         int held() {

@@ -585,7 +585,7 @@ public final class KeyHallPromises {
         }
         due(24, "size(4) with more than one for each call", x.size(4), 554);
         due(23, "around the greatest of them", x.around(380, 5000), 1);
-        due(22, "mark of the greatest again", x.mark(379, 5000), 553);
+        due(22, "mark of one of the greatest again", x.mark(350, 5000), 553);
         due(22, "mark(1, -1), which the step marked", x.mark(1, -1), 552);
     }
 
