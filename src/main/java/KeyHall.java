@@ -28,6 +28,8 @@ public final class KeyHall {
     private static final long EMPTY_TAPE = 0;
 
     private static final int SECOND_BITS = 32;
+    private static final int LEAST_INT = -2147483648;
+    private static final int GREATEST_INT = 2147483647;
 
     private final Sorted counts = new Sorted(CALLS);
     private final Sorted coming = new Sorted(CALLS);
@@ -251,7 +253,7 @@ public final class KeyHall {
     }
 
     public long end(int r) {
-        int i = table.upTo(pairKey(r, Integer.MAX_VALUE)) - 1;
+        int i = table.upTo(pairKey(r, GREATEST_INT)) - 1;
         if (i < 0 || firstOf(table.keyAt(i)) != r) {
             return NOTHING;
         }
@@ -286,7 +288,7 @@ public final class KeyHall {
 
     // The second part is counted from the least int, so that negative ones stay below the others in the key.
     private static long pairKey(int first, int second) {
-        return ((long) first << SECOND_BITS) + ((long) second - Integer.MIN_VALUE);
+        return ((long) first << SECOND_BITS) + ((long) second - LEAST_INT);
     }
 
     private static int firstOf(long key) {
@@ -294,7 +296,7 @@ public final class KeyHall {
     }
 
     private static int secondOf(long key) {
-        return (int) key + Integer.MIN_VALUE;
+        return (int) key + LEAST_INT;
     }
 
     private static boolean hasEvenSum(long key) {
@@ -353,6 +355,8 @@ public final class KeyHall {
         // The jumps of a search add up to this: keys further up would not be found.
         private static final int LARGEST_ROOM = 2 * WIDEST_JUMP - 1;
 
+        private static final long GREATEST_KEY = 9223372036854775807L;
+
         private final long[] keys;
         private final long[] values;
         private int held = 0;
@@ -378,7 +382,7 @@ public final class KeyHall {
         }
 
         int upTo(long key) {
-            return key == Long.MAX_VALUE ? held : below(key + 1);
+            return key == GREATEST_KEY ? held : below(key + 1);
         }
 
         /** Where the key stands, or -1: valueAt and takeAt answer NOTHING there. */

@@ -112,14 +112,17 @@ public final class KeyHallEdgesPoints extends EdgeCases {
         due("around(MAX, MIN) of two", x.around(MAX, MIN), 2);
     }
 
-    static void promise23WrapsWithinOnePartOnly() {
+    static void promise23TheWrapOfOnePartLeavesTheOther() {
         KeyHall x = hall();
-        x.mark(6, MIN);
-        x.mark(4, MAX);
-        // Packed side by side, (5, MAX) would be just before (6, MIN), which is around it by the wrap alone.
-        due("around(5, MAX)", x.around(5, MAX), 2);
-        due("around(4, MIN + 1)", x.around(4, MIN + 1), 0);
-        due("around(6, MAX - 1)", x.around(6, MAX - 1), 0);
+        x.mark(7, MIN);
+        due("around(5, MAX)", x.around(5, MAX), 0);
+        x.mark(4, MIN);
+        due("around(5, MAX) with (4, MIN)", x.around(5, MAX), 1);
+        KeyHall y = hall();
+        y.mark(3, MAX);
+        due("around(5, MIN)", y.around(5, MIN), 0);
+        y.mark(6, MAX);
+        due("around(5, MIN) with (6, MAX)", y.around(5, MIN), 1);
     }
 
     // Promise 24: step.

@@ -98,7 +98,9 @@ public final class KeyHallEdgesTable extends EdgeCases {
 
     static void promise27NothingWithoutTheRow() {
         KeyHall x = hall();
-        due("end(1) of none", x.end(1), NOTHING);
+        for (int r : EDGES) {
+            due("end(" + r + ") of none", x.end(r), NOTHING);
+        }
         x.put(0, 5, 1);
         x.put(2, 5, 1);
         due("end(1) between rows", x.end(1), NOTHING);
@@ -177,11 +179,13 @@ public final class KeyHallEdgesTable extends EdgeCases {
         KeyHall x = hall();
         x.put(1, 2, 3);
         x.put(1, 4, 5);
+        x.put(1, 6, 7);
         due("cut(1, 2)", x.cut(1, 2), 1);
         due("get(1, 2)", x.get(1, 2), NOTHING);
         due("get(1, 4)", x.get(1, 4), 5);
+        due("get(1, 6)", x.get(1, 6), 7);
         due("size(5)", x.size(5), 1);
-        due("size(6)", x.size(6), 1);
+        due("size(6)", x.size(6), 2);
     }
 
     static void promise28RowWithoutColumnsGoes() {

@@ -445,6 +445,10 @@ public final class KeyHallEdgesTerms extends EdgeCases {
             due("get" + of, x.get(pairs[i][0], pairs[i][1]), i);
         }
         due("around" + of, x.around(0, 0), 1);
+        due("erase" + of, x.erase(), 0);
+        due("line" + of, lineOf(x, "ab", sort), 1);
+        due("next" + of, x.next(), 2);
+        due("read" + of, x.read(0), sort);
         due("sweep" + of, x.sweep(), 5);
         due("retain" + of, x.retain(), 5);
         due("comer after retain" + of, x.comer(1, true), 31);

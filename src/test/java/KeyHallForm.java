@@ -25,6 +25,12 @@ public final class KeyHallForm {
         "int next()", "int letter(int)", "int forget()", "int mark(int, int)", "int around(int, int)", "int step()",
         "long put(int, int, int)", "long get(int, int)", "long end(int)", "int cut(int, int)", "int size(int)"));
 
+    private static final Set<String> LIBRARY = Set.of("System.arraycopy", "Math.max", "Math.min");
+
+    private static final int LONGEST_METHOD = 60;
+    private static final int MOST_CLASSES = 12;
+    private static final int MOST_FIELDS = 20;
+
     private static final int[] ARGUMENTS = {
         Integer.MIN_VALUE, Integer.MIN_VALUE + 1, -2, -1, 0, 1, 2, 11, 12, 97, 110, 122, 511, 512, 1 << 30,
         Integer.MAX_VALUE - 1, Integer.MAX_VALUE
@@ -44,6 +50,9 @@ public final class KeyHallForm {
         namesOfPrivateMethods();
         staticFieldsAreFinal();
         forbiddenWords();
+        namesOfTheLibrary();
+        lengthsOfMethods();
+        numbersOfClassesAndFields();
         room();
         noCallThrows();
         noKindOfCallThrowsHoweverOften();
@@ -106,13 +115,54 @@ public final class KeyHallForm {
         }
     }
 
+    private static String codeWithoutComments() throws Exception {
+        return Files.readString(Path.of(SOURCE)).replaceAll("(?s)/\\*.*?\\*/", "").replaceAll("//[^\n]*", "");
+    }
+
     private static void forbiddenWords() throws Exception {
-        String code = Files.readString(Path.of(SOURCE)).replaceAll("(?s)/\\*.*?\\*/", "").replaceAll("//[^\n]*", "");
-        Matcher found = Pattern.compile("\\b(throw|throws|try|catch|synchronized|assert|import|package|hashCode|toString"
-            + "|equals|Random|nanoTime|currentTimeMillis|Thread|\\w+Exact)\\b|->|::").matcher(code);
+        String code = codeWithoutComments();
+        Matcher found = Pattern.compile("\\b(throw|throws|try|catch|synchronized|assert|import|package|hashCode"
+            + "|toString|equals|Random|nanoTime|currentTimeMillis|Thread|\\w+Exact)\\b|->|::").matcher(code);
         while (found.find()) {
             check(false, "rules 2, 4, 6 and 13: " + found.group());
         }
+    }
+
+    private static void namesOfTheLibrary() throws Exception {
+        Matcher found = Pattern.compile("\\b[A-Z]\\w*[a-z]\\w*\\.\\w+").matcher(codeWithoutComments());
+        while (found.find()) {
+            check(LIBRARY.contains(found.group()), "rule 4: " + found.group());
+        }
+    }
+
+    private static void lengthsOfMethods() throws Exception {
+        String head = "^((?: {4}){1,2})(?! |if|for|while|do|switch)([^\n;=]*\\)) \\{\n";
+        Matcher found = Pattern.compile("(?m)" + head + "((?s:.*?)\n)?\\1\\}$").matcher(codeWithoutComments());
+        int methods = 0;
+        while (found.find()) {
+            methods++;
+            check(found.group().split("\n").length <= LONGEST_METHOD, "rule 11: " + found.group(2) + " is long");
+        }
+        check(methods > FACE.size(), "rule 11: only " + methods + " methods were found");
+    }
+
+    private static void numbersOfClassesAndFields() {
+        Class<?>[] inside = KeyHall.class.getDeclaredClasses();
+        check(inside.length + 1 <= MOST_CLASSES, "rule 11: there are " + inside.length + " classes inside");
+        checkFields(KeyHall.class);
+        for (Class<?> c : inside) {
+            checkFields(c);
+        }
+    }
+
+    private static void checkFields(Class<?> holder) {
+        int fields = 0;
+        for (Field f : holder.getDeclaredFields()) {
+            if (!Modifier.isStatic(f.getModifiers())) {
+                fields++;
+            }
+        }
+        check(fields <= MOST_FIELDS, "rule 11: " + holder + " has " + fields + " fields");
     }
 
     private static void room() throws Exception {
@@ -190,7 +240,8 @@ public final class KeyHallForm {
                 otherCall(x, kind, a, b, c);
             }
         } catch (RuntimeException e) {
-            check(false, "rule 7: call of kind " + kind + " with " + a + ", " + b + ", " + c + ", " + d + " threw " + e);
+            String with = a + ", " + b + ", " + c + ", " + d;
+            check(false, "rule 7: call of kind " + kind + " with " + with + " threw " + e);
         }
     }
 
